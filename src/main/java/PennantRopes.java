@@ -630,8 +630,8 @@ public final class PennantRopes {
         }
 
         int orderOf(int hue) {
-            for (int order = 0; order < hueCount; order++) {
-                if (hueAt(order) == hue) {
+            for (int order = 0; order < hueCount && order < orders.length; order++) {
+                if (orders[order] == hue) {
                     return order;
                 }
             }
