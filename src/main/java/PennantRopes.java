@@ -700,11 +700,13 @@ public final class PennantRopes {
             }
             orders[hueCount] = hue;
             hueCount++;
+            int places = 0;
             int step = Math.max(1, gap);
             for (int place = phase; place < length; place += step) {
                 setColour(place, hue);
+                places++;
             }
-            return placesFrom(phase, gap);
+            return places;
         }
 
         int remove(int hue) {
@@ -1162,7 +1164,7 @@ public final class PennantRopes {
         private static final int EUCLID_STEPS = 64;
         private static final int SHARE_STEPS = 64;
         private static final int FRACTION_BITS = 52;
-        private static final long FRACTION_UNITS = 1L << FRACTION_BITS;
+        private static final long FRACTION_UNITS = 4503599627370496L;
         private static final long EXPONENT_OF_ONE = 1023L;
 
         static int remainder(int value, int divisor) {

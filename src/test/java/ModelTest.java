@@ -11,7 +11,7 @@ import java.util.regex.Pattern;
  * rope is a length and a phase for each hue, and each question is answered by trying all that can be.
  */
 final class ModelTest {
-    private static final int RUNS = 1500;
+    private static final int RUNS = 500;
     private static final int CALLS = 500;
     private static final Pattern TEXT;
 

@@ -8,6 +8,7 @@ final class TextsTest {
         complete();
         play();
         playStops();
+        playOfAFifthRope();
         playWithoutRope();
         playOnTheLastRope();
         playIsSavedOnce();
@@ -57,10 +58,12 @@ final class TextsTest {
         }
         String[] wrong = {"r0", "ra", "r,", "r-", "r61", "r69", "r70", "r99", "r101", "r100", "r600", "r5a", "r:", "r/",
             "a00", "a01", "a20", "a29", "a30", "a99", "a190", "a100", "a,", "aa", "h/", "h:", "b1-", "b1b", "c19c",
-            "-i", "-`", "-1", "-,", "--", "-aa", "-a0", "<<", "<1", "<r", "<,,", "<,i", "r5,r0", "r9,a2,a20", "r6:", "r6/"};
+            "-i", "-`", "-1", "-,", "--", "-aa", "-a0", "<<", "<1", "<r", "<,,", "<,i", "r5,r0", "r9,a2,a20", "r6:", "r6/",
+            "r1:", "r5/", "a1:", "h1/", "r9:", "r60:", "a9:"};
         int[] due = {1, 1, 1, 1, 2, 2, 2, 2, 3, 3, 3, 2, 1, 1,
             2, 2, 2, 2, 2, 2, 3, 3, 1, 1, 1, 1, 2, 2, 3,
-            1, 1, 1, 1, 1, 2, 2, 1, 1, 1, 2, 2, 4, 8, 2, 2};
+            1, 1, 1, 1, 1, 2, 2, 1, 1, 1, 2, 2, 4, 8, 2, 2,
+            2, 2, 2, 2, 2, 3, 2};
         for (int index = 0; index < wrong.length; index++) {
             error(wrong[index], due[index]);
             error(wrong[index] + "!", due[index]);
@@ -134,6 +137,15 @@ final class TextsTest {
         stops("r5,a0,-a,-a", 3, 1);
         stops("r5,a0,r5,-a", 3, 1);
         stops("r5,a0,-a,a1,b2", 5, 3);
+    }
+
+    private static void playOfAFifthRope() {
+        PennantRopes x = new PennantRopes();
+        Check.play(x, "r1,r2,r3,r4,r5");
+        Check.same("ropes", x.count(0), 4);
+        Check.same("length of the last one", x.ropeOf(3, 0), 4);
+        Check.same("nothing of it is done", Check.play(x, "r5,<"), 0);
+        Check.same("ropes", x.count(0), 4);
     }
 
     private static void playWithoutRope() {

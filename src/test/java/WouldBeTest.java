@@ -333,6 +333,8 @@ final class WouldBeTest {
         Check.write(x, "r6!~");
         Check.same("with a buffer", x.digest(), hashed(x, "r6!~"));
         Check.same("twice", x.digest(), x.digest());
+        PennantRopes free = two("r9,r1");
+        Check.same("free ropes", free.digest(), hashed(free, ""));
         PennantRopes y = two("r9,a0,c1,<,r4,h3,r3,a0");
         Check.same("ropes", y.digest(), hashed(y, ""));
         y.cut(0, 4);
