@@ -196,38 +196,28 @@ final class WouldBeTest {
         Check.same("ropes", x.count(0), 3);
     }
 
-    private static PennantRopes two(String text) {
-        PennantRopes x = new PennantRopes();
-        int parts = 1;
-        for (char code : text.toCharArray()) {
-            parts += code == ',' ? 1 : 0;
-        }
-        Check.same("parts of " + text, Check.play(x, text), parts);
-        return x;
-    }
-
     private static void joiningReasonsInOrder() {
-        Check.same("the gap where they meet", two("r4,a0,r3,a0").joining(0, 1), 0);
-        Check.same("too soon", two("r3,a0,r3,a0").joining(0, 1), 3);
-        Check.same("too late", two("r4,a0,r3,a1").joining(0, 1), 3);
-        Check.same("a whole gap too late", two("r5,c0,r5,c3").joining(0, 1), 0);
-        Check.same("in a gap that has one more", two("r3,c0,r5,c3").joining(0, 1), 3);
-        Check.same("a hue that is missed once", two("r6,c0,r7,<,c3").joining(0, 1), 3);
-        Check.same("3 ahead of 4", two("r3,a0,b1,r3,a0,c1").joining(0, 1), 3);
-        Check.same("3 for the second hue of the first one", two("r6,d1,b0,r6,b1,d0").joining(0, 1), 3);
-        Check.same("2 ahead of 3", two("r31,a0,r30,a0").joining(0, 1), 2);
+        Check.same("the gap where they meet", Check.played("r4,a0,r3,a0").joining(0, 1), 0);
+        Check.same("too soon", Check.played("r3,a0,r3,a0").joining(0, 1), 3);
+        Check.same("too late", Check.played("r4,a0,r3,a1").joining(0, 1), 3);
+        Check.same("a whole gap too late", Check.played("r5,c0,r5,c3").joining(0, 1), 0);
+        Check.same("in a gap that has one more", Check.played("r3,c0,r5,c3").joining(0, 1), 3);
+        Check.same("a hue that is missed once", Check.played("r6,c0,r7,<,c3").joining(0, 1), 3);
+        Check.same("3 ahead of 4", Check.played("r3,a0,b1,r3,a0,c1").joining(0, 1), 3);
+        Check.same("3 for the second hue of the first one", Check.played("r6,d1,b0,r6,b1,d0").joining(0, 1), 3);
+        Check.same("2 ahead of 3", Check.played("r31,a0,r30,a0").joining(0, 1), 2);
     }
 
     private static void joiningTwoOnOnePlace() {
-        Check.same("the back one goes on ahead", two("r2,a0,r3,b1").joining(0, 1), 4);
-        Check.same("the front one goes on behind", two("r2,a0,r3,c0").joining(0, 1), 4);
-        Check.same("two of the back one meet ahead", two("r5,r4,b1,c3").joining(0, 1), 4);
-        Check.same("two of the front one meet behind", two("r9,b0,c1,r1").joining(0, 1), 4);
-        Check.same("both are free there", two("r9,b0,c1,r1").joining(1, 0), 0);
-        Check.same("a hue of both meets another one", two("r4,a0,r4,a0,c1").joining(0, 1), 0);
-        Check.same("the second one of the front", two("r5,c1,a0,r3,f0").joining(0, 1), 4);
-        Check.same("the second one of the back", two("r5,c1,a0,r3,f1").joining(1, 0), 4);
-        PennantRopes x = two("r5,c1,a0,r3,f2");
+        Check.same("the back one goes on ahead", Check.played("r2,a0,r3,b1").joining(0, 1), 4);
+        Check.same("the front one goes on behind", Check.played("r2,a0,r3,c0").joining(0, 1), 4);
+        Check.same("two of the back one meet ahead", Check.played("r5,r4,b1,c3").joining(0, 1), 4);
+        Check.same("two of the front one meet behind", Check.played("r9,b0,c1,r1").joining(0, 1), 4);
+        Check.same("both are free there", Check.played("r9,b0,c1,r1").joining(1, 0), 0);
+        Check.same("a hue of both meets another one", Check.played("r4,a0,r4,a0,c1").joining(0, 1), 0);
+        Check.same("the second one of the front", Check.played("r5,c1,a0,r3,f0").joining(0, 1), 4);
+        Check.same("the second one of the back", Check.played("r5,c1,a0,r3,f1").joining(1, 0), 4);
+        PennantRopes x = Check.played("r5,c1,a0,r3,f2");
         Check.same("all go on over free places", x.joining(1, 0), 0);
         Check.same("join", x.join(1, 0), 8);
         Check.sameText("joined", Check.look(x, 0), "cafaca.a fca");
@@ -279,75 +269,27 @@ final class WouldBeTest {
         Check.sameDouble("without ropes again", x.fullness(), 1.0);
     }
 
-    private static long mixed(long hash, long value) {
-        return 31 * hash + value;
-    }
-
-    /** The hash by the calls of the face. */
-    private static long hashed(PennantRopes x, String buffer) {
-        long hash = 3643;
-        for (int what = 0; what < 8; what++) {
-            hash = mixed(hash, x.count(what));
-        }
-        for (int hue = 0; hue < 8; hue++) {
-            hash = mixed(hash, x.gapOf(hue));
-        }
-        for (int rope = 0; rope < x.count(0); rope++) {
-            hash = ropeHashed(x, hash, rope);
-        }
-        for (int hue = 0; hue < 8; hue++) {
-            hash = mixed(hash, x.meeting(0, 1, hue, 0));
-        }
-        hash = mixed(hash, Double.doubleToLongBits(x.fullness()));
-        hash = mixed(hash, buffer.length());
-        for (char code : buffer.toCharArray()) {
-            hash = mixed(hash, code);
-        }
-        return hash;
-    }
-
-    private static long ropeHashed(PennantRopes x, long before, int rope) {
-        long hash = before;
-        for (int what = 0; what < 6; what++) {
-            hash = mixed(hash, x.ropeOf(rope, what));
-        }
-        for (int place = 0; place < x.ropeOf(rope, 0); place++) {
-            hash = mixed(hash, x.place(rope, place));
-        }
-        for (int hue = 0; hue < 8; hue++) {
-            for (int what = 0; what < 4; what++) {
-                hash = mixed(hash, x.hueOf(rope, hue, what));
-            }
-            for (int what = 0; what < 3; what++) {
-                hash = mixed(hash, x.phases(rope, hue, what));
-            }
-        }
-        hash = mixed(hash, x.bestHue(rope));
-        hash = mixed(hash, x.greatest(rope));
-        return mixed(hash, x.joining(rope, 0));
-    }
-
     private static void digest() {
         PennantRopes x = new PennantRopes();
-        Check.same("a new object", x.digest(), hashed(x, ""));
+        Check.same("a new object", x.digest(), Digests.hashed(x, ""));
         Check.write(x, "r6!~");
-        Check.same("with a buffer", x.digest(), hashed(x, "r6!~"));
+        Check.same("with a buffer", x.digest(), Digests.hashed(x, "r6!~"));
         Check.same("twice", x.digest(), x.digest());
-        PennantRopes free = two("r9,r1");
-        Check.same("free ropes", free.digest(), hashed(free, ""));
-        PennantRopes y = two("r9,a0,c1,<,r4,h3,r3,a0");
-        Check.same("ropes", y.digest(), hashed(y, ""));
+        PennantRopes free = Check.played("r9,r1");
+        Check.same("free ropes", free.digest(), Digests.hashed(free, ""));
+        PennantRopes y = Check.played("r9,a0,c1,<,r4,h3,r3,a0");
+        Check.same("ropes", y.digest(), Digests.hashed(y, ""));
         y.cut(0, 4);
         y.join(1, 2);
         Check.write(y, "zz");
-        Check.same("ropes, cut and joined", y.digest(), hashed(y, "zz"));
+        Check.same("ropes, cut and joined", y.digest(), Digests.hashed(y, "zz"));
         for (int length = 1; length <= 60; length++) {
             for (int gap = 2; gap <= 20; gap += 3) {
                 PennantRopes z = new PennantRopes();
                 z.gap(7, gap);
                 z.rope(length);
                 z.lay(0, 7, Math.min(gap, length) - 1);
-                Check.same("one rope of " + length, z.digest(), hashed(z, ""));
+                Check.same("one rope of " + length, z.digest(), Digests.hashed(z, ""));
             }
         }
     }
