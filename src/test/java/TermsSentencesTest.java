@@ -795,7 +795,46 @@ final class TermsSentencesTest {
         right("r10");
     }
 
-    @Sentence(of = "Input text", says = "The buffer is read from left to right; a character is a syntax error if no ropes as a text, of any length, begin with the characters before it and this character.")
+    /** The characters behind a text that some ropes as a text begin with. */
+    private static void goesOnWith(String text, String right) {
+        for (int code = 33; code <= 126; code++) {
+            PennantRopes x = new PennantRopes();
+            Check.write(x, text);
+            x.append(code);
+            int due = text.length() + (right.indexOf(code) < 0 ? 0 : 1);
+            Check.same("firstError of " + text + (char) code, x.firstError(), due);
+        }
+    }
+
+    @Sentence(of = "Input text", says = "a character is a syntax error if no ropes as a text, of any length, begin with the characters before it and this character.")
+    static void eachCharacterOnEachPlace() {
+        for (String ahead : new String[] {"", "r60,", "h19,", "-h,", "<,"}) {
+            goesOnWith(ahead, "rabcdefgh-<");
+            goesOnWith(ahead + "r", "123456789");
+            goesOnWith(ahead + "r1", "0123456789,");
+            goesOnWith(ahead + "r5", "0123456789,");
+            goesOnWith(ahead + "r6", "0,");
+            goesOnWith(ahead + "r7", ",");
+            goesOnWith(ahead + "r9", ",");
+            goesOnWith(ahead + "r10", ",");
+            goesOnWith(ahead + "r59", ",");
+            goesOnWith(ahead + "r60", ",");
+            goesOnWith(ahead + "a", "0123456789");
+            goesOnWith(ahead + "h", "0123456789");
+            goesOnWith(ahead + "a0", ",");
+            goesOnWith(ahead + "a1", "0123456789,");
+            goesOnWith(ahead + "a2", ",");
+            goesOnWith(ahead + "a9", ",");
+            goesOnWith(ahead + "a10", ",");
+            goesOnWith(ahead + "h19", ",");
+            goesOnWith(ahead + "-", "abcdefgh");
+            goesOnWith(ahead + "-a", ",");
+            goesOnWith(ahead + "-h", ",");
+            goesOnWith(ahead + "<", ",");
+        }
+    }
+
+    @Sentence(of = "Input text", says = "The buffer is read from left to right")
     static void errorsAtTheEndOfAFullBuffer() {
         String most = "r1," + "<,".repeat(28);
         error(most + "i", 59);

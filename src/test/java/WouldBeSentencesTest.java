@@ -374,6 +374,17 @@ final class WouldBeSentencesTest {
         }
         x.take(0, 5);
         Check.same("the one that is not laid", x.bestHue(0), 5);
+        for (int length = 1; length <= 60; length++) {
+            PennantRopes y = new PennantRopes();
+            for (int hue = 0; hue < 8; hue++) {
+                y.gap(hue, 20);
+            }
+            y.gap(0, 4);
+            y.gap(7, 3);
+            y.rope(length);
+            int due = (length + 2) / 3 > (length + 3) / 4 ? 7 : 0;
+            Check.same("gaps 4 and 3 on " + length, y.bestHue(0), due);
+        }
     }
 
     @Sentence(of = "Promise 27", says = "NONE if none fits.")
